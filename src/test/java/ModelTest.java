@@ -18,6 +18,9 @@ public final class ModelTest {
     /** These would end too much if they came as often as the others. */
     private static final String[] RARE = {"again", "denies", "sheet"};
 
+    private static final int[] FAR_OFF = {Integer.MIN_VALUE, Integer.MAX_VALUE, Integer.MIN_VALUE + 1, Integer.MAX_VALUE - 1,
+        1 << 30, -(1 << 30), 65536, -65536, 256, 255, 128, 127, -128, -129, 32768, -32768, 1000, 100, 99, 64, 24, 16};
+
     private static final Map<String, Method> FOLIO = methodsOf(FlashFolio.class);
     private static final Map<String, Method> PLAIN = methodsOf(PlainFolio.class);
 
@@ -124,6 +127,9 @@ public final class ModelTest {
     }
 
     private int argument(String call, int i) {
+        if (random.nextInt(80) == 0) {
+            return FAR_OFF[random.nextInt(FAR_OFF.length)];
+        }
         return switch (call + i) {
             case "block0", "leaf0" -> random.nextInt(18) - 1;
             case "block1", "sheet0", "sets0", "heard0", "leaf1" -> random.nextInt(7) - 1;
