@@ -261,7 +261,7 @@ public final class PromiseTest {
         // d = 1, f = 14, w = 6, c = 3, l = 0, s = 1 (page 0 in the home, newer in the run)
         String[] above = {"1", "d=1", "f=14", "w=6", "c=3", "l=0", "s=1", "2-1", "--1", "2*3-5", "7/2=3", "-7/2=-3",
             "1/0=0", "(1+2)*3=9", "1+2*3=7", "10-3-2=5", "100/5/2=10", "1<2", "2>1", "-1+2", "-2*-3=6", "2--3=5",
-            "(1<2)+(3<4)=2", "12=12", "123=123", "((((d))))"};
+            "(1<2)+(3<4)=2", "(2>1)+(1=1)=2", "12=12", "123=123", "((((d))))"};
         String[] notAbove = {"0", "-1", "d>4", "d=0", "1<1", "1>1", "2=1", "1-2", "0*5", "5/0", "1-1", "-(1)", "-1*1"};
         for (String rule : above) {
             due("levels by " + rule, levelsBy(rule), 1);
@@ -283,6 +283,27 @@ public final class PromiseTest {
         x.sheet(2, 1, 5, 0);
         x.costs(0);
         due("d>4 levels", x.row(2), 1);
+        x.sheet(2, 1, 4, 0);
+        x.costs(0);
+        due("5 is above 4", x.row(2), 1);
+        x.sheet(2, 1, 3, 0);
+        x.costs(0);
+        due("4 is not", x.row(2), 0);
+        // page 9: home, one leaf in a cold log, four in a hot one; then a partial merge with page 0
+        FlashFolio y = aboutToSeal();
+        dayOf(y, "w0930w0931w0932w0933w0934w0935");
+        due("11 writes", y.count(1), 11);
+        for (String rule : new String[] {"w=2", "l=2", "c=3", "s=6", "f=11"}) {
+            ruleOf(y, rule);
+            y.costs(0);
+            due("levels by " + rule, y.row(2), 1);
+        }
+        dayOf(y, "m0m0m0");
+        due("12 copies", y.count(2), 12);
+        y.writes(0, 1);
+        ruleOf(y, "c=5");
+        y.costs(0);
+        due("c is a rest", y.row(2), 1);
     }
 
     private static void blocks() {
@@ -327,6 +348,8 @@ public final class PromiseTest {
         refusesBy("leaf(0, 3, 3)", () -> x.leaf(0, 3, 3));
         refusesBy("leaf(0, 3, -1)", () -> x.leaf(0, 3, -1));
         refusesBy("leaf(0, 4, 0)", () -> x.leaf(0, 4, 0));
+        x.writes(8, 1);
+        refusesBy("leaf(0, 4, 0), which is no leaf of block 1", () -> x.leaf(0, 4, 0));
         refusesBy("leaf(0, -1, 0)", () -> x.leaf(0, -1, 0));
         refusesBy("leaf(16, 0, 0)", () -> x.leaf(16, 0, 0));
         refusesBy("leaf(-1, 3, 0)", () -> x.leaf(-1, 3, 0));
@@ -539,6 +562,17 @@ public final class PromiseTest {
         due("wipes", x.block(0, 4), 2);
         FlashFolio y = new FlashFolio();
         y.sheet(2, 16, 0, 1);
+        FlashFolio ties = behind("w0010w0411");
+        ties.sheet(2, 16, 3, 0);
+        ties.sheet(2, 4, 0, 0);
+        due("all are 0", ties.levels(), -2);
+        ties.sheet(0, 12, 0, 64);
+        // 0, 64, -128, -64, 0, 64, ..: block 1 (home) has 64, free ones 5 and 9 have 64
+        dueRow("of equal free ones the least", ties, () -> ties.levels(), 5, 0);
+        ties.undo();
+        ties.sheet(2, 16, 0, 0);
+        ties.merges(1);
+        dueRow("of equal homes the least", ties, () -> ties.levels(), 1, 0);
         due("no home", y.levels(), -2);
         FlashFolio z = behind("w0010w0411");
         z.sheet(2, 4, 0, 0);
@@ -552,6 +586,7 @@ public final class PromiseTest {
         promise = 14;
         FlashFolio x = behind("w0110w0110w0110w0110w0110w0110w0110w0210w0210w0210");
         due("7 to 3, 3 to 1", x.cools(), 1);
+        due("page 0 is not yet written", x.heat(0), 0);
         due("3", x.heat(1), 3);
         due("1", x.heat(2), 1);
         due("3 to 1", x.cools(), 0);
@@ -563,6 +598,10 @@ public final class PromiseTest {
         y.clears(1);
         y.sets(1, 0);
         due("without hots none is hot", y.cools(), 0);
+        FlashFolio z = behind("w0010w0010w0010w0010w0010w0010w2310w2310w2310w2310w2310w2310");
+        due("the first page and the last", z.cools(), 2);
+        due("first", z.heat(0), 3);
+        due("last", z.heat(23), 3);
     }
 
     private static void sets() {
@@ -613,6 +652,12 @@ public final class PromiseTest {
         due("not kept", x.count(10), 2);
         due("c0 without a log", dayOf(x, "c0"), 0);
         due("refused", x.row(0), 1);
+        FlashFolio both = behind("w0110w0111w0112w0113");
+        due("hot", dayOf(both, "c1"), 1);
+        due("hot is gone", both.logs(1), 0);
+        due("cold is not", both.logs(0), 1);
+        due("cold", dayOf(both, "hc0"), 2);
+        due("cold is gone", both.logs(0), 0);
         due("c2", dayOf(x, "hc2"), -3);
         due("row stays", x.row(0), 1);
         due("nothing is done", x.count(10), 2);
@@ -645,6 +690,27 @@ public final class PromiseTest {
             holds("as ahead of write " + i, seenOf(x).equals(seen[i]));
         }
         due("none", x.undo(), -1);
+        FlashFolio each = behind("w0110w0111w0112w0410w0411");
+        each.sheet(2, 16, 0, 1);
+        String ahead = seenOf(each);
+        for (IntSupplier act : new IntSupplier[] {() -> each.writes(1, 5), () -> each.merges(1), () -> each.seals(),
+            () -> each.clears(0), () -> each.clears(1), () -> each.levels(), () -> each.cools(), () -> each.sets(2, 1),
+            () -> dayOf(each, "hm0l")}) {
+            holds("done", act.getAsInt() >= 0);
+            holds("changed", !ahead.equals(seenOf(each)) || each.sets(2, 1) == -2);
+            due("undone", each.undo(), 1);
+            holds("all is back", ahead.equals(seenOf(each)) && each.sets(2, 3) == -2);
+        }
+        String[] long30 = new String[31];
+        FlashFolio round = new FlashFolio();
+        for (int i = 0; i <= 30; i++) {
+            long30[i] = seenOf(round);
+            round.writes(i % 7, i);
+        }
+        for (int i = 30; i > 22; i--) {
+            round.undo();
+            holds("as ahead of " + i, long30[i].equals(seenOf(round)));
+        }
         x.heard(0, 1);
         ruleOf(x, "1");
         x.keep(0);
@@ -724,6 +790,10 @@ public final class PromiseTest {
         dueRow("without hots", x, () -> x.hot(), 0, 0, 2, 4);
         promise = 21;
         due("heat", x.heat(2), 4);
+        FlashFolio y = behind("w0010w0010w0010w2310w2310w2310");
+        promise = 20;
+        dueRow("the first page and the last", y, () -> y.hot(), 1 | 1 << 23, 2, 0, 3);
+        promise = 21;
         due("heat", x.heat(3), 2);
         due("heat of none", x.heat(23), 0);
         due("page 24", x.heat(24), -1);
@@ -778,6 +848,8 @@ public final class PromiseTest {
         dueRow("none", x, () -> x.spread(), 0, 0, 0, 0);
         x.sheet(2, 4, 9, -3);
         dueRow("9, 6, 3, 0", x, () -> x.spread(), 9, 0, 3, 18);
+        x.sheet(2, 16, 20, -1);
+        dueRow("20 .. 5", x, () -> x.spread(), 15, 0, 15, 200);
         x.sheet(0, 16, 0, 20);
         // 0, 20, .., 120, then below 0 (140 is -116) till 260: 4, 24, 44
         dueRow("bytes", x, () -> x.spread(), 120, 6, 0, 0 + 20 + 40 + 60 + 80 + 100 + 120 + 4 + 24 + 44);
@@ -803,6 +875,8 @@ public final class PromiseTest {
         ruleOf(y, "1");
         y.sheet(2, 16, 999, 0);
         dueRow("a rule above 0, but nothing to level", y, () -> y.costs(0), 3, 1, 3, 0);
+        y.merges(0);
+        dueRow("of this write alone", y, () -> y.costs(0), 0, 0, 3, 0);
     }
 
     private static void worst() {
@@ -852,11 +926,37 @@ public final class PromiseTest {
         due("k 1000", x.lasts(0, 1000), -1);
         due("in vain", x.lasts(0, 999), -2);
         due("nothing done", x.count(1), 0);
+        // each round of 16 blocks takes 16 writes: the seventh begins with the 99th
+        due("the last that counts", x.lasts(0, 7), 99);
+        for (int n = 0; n <= 16; n++) {
+            lastsByHand(n);
+        }
         x.sheet(2, 16, 0, 1);
         dueRow("one has now", x, () -> x.lasts(0, 15), 0, 15, 0);
         dueRow("the least", x, () -> x.lasts(5, 3), 0, 3, 0);
         due("in vain", x.lasts(0, 999), -2);
         due("row stays", x.row(0), 3);
+    }
+
+    /** Written till a block is worn, by calls of writes(): the first n blocks have one wipe at first. */
+    private static void lastsByHand(int n) {
+        FlashFolio x = new FlashFolio();
+        x.sheet(2, n, 1, 0);
+        FlashFolio y = new FlashFolio();
+        y.sheet(2, n, 1, 0);
+        int k = 2;
+        for (int i = 1; i <= 101; i++) {
+            y.writes(0, 0);
+            int worn = 15;
+            while (worn >= 0 && y.block(worn, 4) < k) {
+                worn--;
+            }
+            if (worn >= 0) {
+                due("lasts(0, " + k + ") behind " + n, x.lasts(0, k), i <= 99 ? i : -2);
+                k++;
+            }
+        }
+        due("in vain", x.lasts(0, k), -2);
     }
 
     private static void cuts() {
@@ -875,6 +975,7 @@ public final class PromiseTest {
         due("page -1", x.cuts(-1, 30, 1), -1);
         due("value 100", x.cuts(0, 100, 1), -1);
         due("value -1", x.cuts(0, -1, 1), -1);
+        due("value 0", x.cuts(5, 0, 1), 0);
         ruleOf(x, "1");
         // levelling behind it: 4 copies, one wipe
         dueRow("levelled", x, () -> x.cuts(0, 30, 7), 30, 10, 0);
@@ -888,6 +989,9 @@ public final class PromiseTest {
         promise = 31;
         FlashFolio x = new FlashFolio();
         due("none", x.swells(), -2);
+        x.writes(23, 0);
+        dueRow("one by one", x, () -> x.swells(), 0, 1, 1);
+        x.undo();
         dayOf(x, "w0010w0111");
         dueRow("1", x, () -> x.swells(), 0, 1, 1);
         x.merges(0);
@@ -956,6 +1060,20 @@ public final class PromiseTest {
         promise = 35;
         x.denies();
         dueRow("8 wipes or more", x, () -> x.asks(), 18, 8);
+        FlashFolio y = behind("w2000w2101");
+        y.heard(2, 1);
+        y.writes(0, 0);
+        y.writes(4, 0);
+        y.writes(8, 0);
+        y.writes(12, 0);
+        // homes 0 (folder 5, 2 leaves), 1 .. 4 (1 leaf): none but the leaves and the folders part them
+        dueRow("2 leaves or more", y, () -> y.asks(), 22, 4);
+        y.writes(1, 0);
+        y.writes(5, 0);
+        dueRow("parted 3 and 2", y, () -> y.asks(), 22, 3);
+        y.denies();
+        y.heard(3, 5);
+        dueRow("the last folder", y, () -> y.fits(), 1, 1);
     }
 
     private static void law() {
@@ -983,6 +1101,34 @@ public final class PromiseTest {
         due("the other way round", lawOf(x, "d>4", 3), -less);
         due("other way round", x.row(0), byRule);
         due("other way round", x.row(1), byIt);
+        for (int seed = 1; seed <= 10; seed++) {
+            lawByHand(seed);
+        }
+    }
+
+    private static void lawByHand(int seed) {
+        FlashFolio x = new FlashFolio();
+        ruleOf(x, "d>0");
+        FlashFolio y = new FlashFolio();
+        writeDrawn(x, seed, 40);
+        writeDrawn(y, seed, 40);
+        int byIt = x.spread();
+        int byRule = y.spread();
+        FlashFolio z = new FlashFolio();
+        tell(z, "d>0");
+        dueRow("seed " + seed, z, () -> z.law(seed), byIt - byRule, byIt, byRule, x.count(2), y.count(2));
+    }
+
+    private static void writeDrawn(FlashFolio x, int seed, int n) {
+        int r = seed;
+        for (int i = 0; i < n; i++) {
+            r = r * 1103515245 + 12345;
+            int tells = (r >>> 16) % 4;
+            r = r * 1103515245 + 12345;
+            int page = tells == 3 ? (r >>> 16) % 4 : (r >>> 16) % 24;
+            r = r * 1103515245 + 12345;
+            x.writes(page, (r >>> 16) % 100);
+        }
     }
 
     private static void years() {
@@ -1014,15 +1160,7 @@ public final class PromiseTest {
 
     private static void drawnByHand(int seed) {
         FlashFolio x = new FlashFolio();
-        int r = seed;
-        for (int i = 0; i < 60; i++) {
-            r = r * 1103515245 + 12345;
-            int tells = (r >>> 16) % 4;
-            r = r * 1103515245 + 12345;
-            int page = tells == 3 ? (r >>> 16) % 4 : (r >>> 16) % 24;
-            r = r * 1103515245 + 12345;
-            x.writes(page, (r >>> 16) % 100);
-        }
+        writeDrawn(x, seed, 60);
         x.sum();
         FlashFolio y = new FlashFolio();
         dueRow("seed " + seed, y, () -> y.years(seed, 60), x.count(2), x.count(3), x.count(6), x.row(0));
