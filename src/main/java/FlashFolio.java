@@ -387,7 +387,7 @@ public final class FlashFolio {
         if (log == NONE) {
             return LACKS;
         }
-        int bits = now.foldersLatestIn(log);
+        int bits = now.foldersIn(log, now.latestIn(log));
         begin();
         beginTrial();
         trial.clearFirst(of);
@@ -1064,7 +1064,7 @@ public final class FlashFolio {
             if (block == NONE) {
                 return LACKS;
             }
-            int folders = foldersLatestIn(block);
+            int folders = foldersIn(block, latestIn(block));
             for (int folder = 0; folder < FOLDERS; folder++) {
                 if ((folders >> folder & 1) != 0) {
                     fullMerge(folder);
@@ -1256,10 +1256,6 @@ public final class FlashFolio {
                 bits |= p != NONE && (leaves >> leaf & 1) != 0 ? 1 << p / PLACES : 0;
             }
             return bits;
-        }
-
-        private int foldersLatestIn(int block) {
-            return foldersIn(block, latestIn(block));
         }
 
         private int writtenLeaves() {
