@@ -1,106 +1,7 @@
-import java.util.Arrays;
-import java.util.NoSuchElementException;
 import java.util.function.IntSupplier;
-import java.util.function.LongSupplier;
 
 /** For each promise of the document what it tells by itself: ordinary inputs, the edges it names, wrong inputs. */
-public final class PromiseTest {
-    private static int wrong = 0;
-    private static int promise = 0;
-
-    private static void due(String what, long got, long want) {
-        if (got != want) {
-            wrong++;
-            System.out.println("promise " + promise + ": " + what + " answered " + got + ", due is " + want);
-        }
-    }
-
-    private static void holds(String what, boolean so) {
-        due(what, so ? 1 : 0, 1);
-    }
-
-    /** An answer, and the whole row behind it. */
-    private static void dueRow(String what, FlashFolio x, IntSupplier call, int want, long... row) {
-        due(what, call.getAsInt(), want);
-        long[] got = new long[x.count(11)];
-        for (int i = 0; i < got.length; i++) {
-            got[i] = x.row(i);
-        }
-        if (!Arrays.equals(got, row)) {
-            wrong++;
-            System.out.println("promise " + promise + ": row of " + what + " is " + Arrays.toString(got) + ", due is "
-                    + Arrays.toString(row));
-        }
-    }
-
-    private static void refusesBy(String what, LongSupplier call) {
-        boolean thrown = false;
-        try {
-            call.getAsLong();
-        } catch (NoSuchElementException e) {
-            thrown = true;
-        }
-        holds(what + " throws", thrown);
-    }
-
-    private static void tell(FlashFolio x, String text) {
-        x.end(0);
-        for (int i = 0; i < text.length(); i += 4) {
-            int v = 0;
-            for (int j = 0; j < 4; j++) {
-                v = v << 8 | (i + j < text.length() ? text.charAt(i + j) : 0);
-            }
-            x.sign(v);
-        }
-        holds("text of " + text.length(), x.end(text.length()));
-    }
-
-    private static int ruleOf(FlashFolio x, String text) {
-        tell(x, text);
-        return x.rule();
-    }
-
-    private static int dayOf(FlashFolio x, String text) {
-        tell(x, text);
-        return x.day();
-    }
-
-    private static int lawOf(FlashFolio x, String text, int seed) {
-        tell(x, text);
-        return x.law(seed);
-    }
-
-    private static FlashFolio behind(String... days) {
-        FlashFolio x = new FlashFolio();
-        for (String day : days) {
-            holds("day " + day, dayOf(x, day) > 0);
-            due("refused in " + day, x.row(0), 0);
-        }
-        return x;
-    }
-
-    /** All that the document lets be seen and undo() brings back, as a text. */
-    private static String seenOf(FlashFolio x) {
-        StringBuilder all = new StringBuilder();
-        for (int b = 0; b < 16; b++) {
-            for (int what = 0; what < 5; what++) {
-                all.append(x.block(b, what)).append(' ');
-            }
-            for (int l = 0; l < 4; l++) {
-                for (int what = 0; what < 3 && (x.block(b, 2) >> l & 1) != 0; what++) {
-                    all.append(x.leaf(b, l, what)).append(' ');
-                }
-            }
-        }
-        for (int p = 0; p < 24; p++) {
-            all.append(x.heat(p)).append(' ');
-        }
-        for (int what = 0; what <= 8; what++) {
-            all.append(x.count(what)).append(' ');
-        }
-        return all.toString();
-    }
-
+public final class PromiseTest extends Checks {
     public static void main(String[] args) {
         newObject();
         signs();
@@ -144,14 +45,11 @@ public final class PromiseTest {
         counts();
         rows();
         questions();
-        System.out.println(wrong == 0 ? "all promises are kept" : wrong + " answers are not as due");
-        if (wrong != 0) {
-            System.exit(1);
-        }
+        close("all promises are kept");
     }
 
     private static void newObject() {
-        promise = 1;
+        promise(1);
         FlashFolio x = new FlashFolio();
         due("free blocks", x.count(0), 65535);
         due("NONE", FlashFolio.NONE, -1);
@@ -169,7 +67,7 @@ public final class PromiseTest {
     }
 
     private static void signs() {
-        promise = 2;
+        promise(2);
         FlashFolio x = new FlashFolio();
         for (int n = 4; n <= 80; n += 4) {
             due("sign", x.sign(-1), n);
@@ -189,7 +87,7 @@ public final class PromiseTest {
     }
 
     private static void ends() {
-        promise = 3;
+        promise(3);
         FlashFolio x = new FlashFolio();
         holds("end(0) of none", x.end(0));
         holds("end(1) of none", !x.end(1));
@@ -204,7 +102,7 @@ public final class PromiseTest {
     }
 
     private static void rules() {
-        promise = 4;
+        promise(4);
         FlashFolio x = new FlashFolio();
         for (String fine : new String[] {"d>4", "", "0", "999", "--d", "1---1", "2*-3", "d<f", "(d<f)=(w>c)", "l+s-1*2/3",
             "((((1))))", "(1<2)<3", "-(-1)", "1=1+1", "s"}) {
@@ -241,22 +139,8 @@ public final class PromiseTest {
         due("80 signs -", ruleOf(x, "-".repeat(80)), -41);
     }
 
-    /** A folder that is full, and a run along it: the seal that comes with page 0 wipes one block. */
-    private static FlashFolio aboutToSeal() {
-        FlashFolio x = behind("w0010w0111w0212w0313w0020");
-        due("a block is told worn", x.sheet(2, 16, 0, 0), 0);
-        return x;
-    }
-
-    private static int levelsBy(String rule) {
-        FlashFolio x = aboutToSeal();
-        due("rule " + rule, ruleOf(x, rule), 0);
-        x.costs(0);
-        return (int) x.row(2);
-    }
-
     private static void rulesThatDecide() {
-        promise = 4;
+        promise(4);
         // behind the write of page 0: the home of before was wiped, so it has 1 wipe; run 1 is home with 0
         // d = 1, f = 14, w = 6, c = 3, l = 0, s = 1 (page 0 in the home, newer in the run)
         String[] above = {"1", "d=1", "f=14", "w=6", "c=3", "l=0", "s=1", "2-1", "--1", "2*3-5", "7/2=3", "-7/2=-3",
@@ -307,7 +191,7 @@ public final class PromiseTest {
     }
 
     private static void blocks() {
-        promise = 5;
+        promise(5);
         FlashFolio x = behind("w0510w0511", "w0512w0413", "w0414w0415");
         // home of folder 1: block 0; page 5: cold log 1, then (heat 3) hot log 2; page 4: home, run 3, sealed, run
         due("home", x.block(3, 0), 1);
@@ -336,7 +220,7 @@ public final class PromiseTest {
     }
 
     private static void leaves() {
-        promise = 6;
+        promise(6);
         FlashFolio x = behind("w0799w0601");
         due("page", x.leaf(0, 3, 0), 7);
         due("value", x.leaf(0, 3, 1), 99);
@@ -356,7 +240,7 @@ public final class PromiseTest {
     }
 
     private static void sheets() {
-        promise = 7;
+        promise(7);
         FlashFolio x = new FlashFolio();
         due("ints", x.sheet(2, 3, 5, 1), 18);
         due("last", x.block(2, 4), 7);
@@ -396,7 +280,7 @@ public final class PromiseTest {
     }
 
     private static void writes() {
-        promise = 8;
+        promise(8);
         FlashFolio x = new FlashFolio();
         dueRow("home", x, () -> x.writes(2, 50), 0, 2, 0, 0);
         dueRow("its other leaf", x, () -> x.writes(0, 51), 0, 0, 0, 0);
@@ -429,7 +313,7 @@ public final class PromiseTest {
     }
 
     private static void writesToLogs() {
-        promise = 8;
+        promise(8);
         FlashFolio x = behind("w0110w0111", "w0510w0511");
         due("one cold log", x.logs(0), 1);
         dueRow("its next leaf", x, () -> x.writes(5, 12), 3, 0, 0, 0);
@@ -470,7 +354,7 @@ public final class PromiseTest {
     }
 
     private static void writesThatLevel() {
-        promise = 8;
+        promise(8);
         FlashFolio x = aboutToSeal();
         x.sheet(2, 1, 4, 0);
         // block 0 (home, 4 wipes) is wiped by the partial merge: 5 wipes, free; d = 5 > 4: run 1, home with 0
@@ -487,7 +371,7 @@ public final class PromiseTest {
     }
 
     private static void reads() {
-        promise = 9;
+        promise(9);
         FlashFolio x = behind("w2310w2311");
         dueRow("latest", x, () -> x.reads(23), 11, 1, 0, 2);
         due("never written", x.reads(22), -2);
@@ -499,7 +383,7 @@ public final class PromiseTest {
     }
 
     private static void merges() {
-        promise = 10;
+        promise(10);
         FlashFolio x = behind("w0410w0511w0412w0512");
         dueRow("home and run go", x, () -> x.merges(1), 2, 2, 2);
         due("no run", x.seals(), -2);
@@ -515,7 +399,7 @@ public final class PromiseTest {
     }
 
     private static void seals() {
-        promise = 11;
+        promise(11);
         FlashFolio x = behind("w0010w0111w0212w0020");
         dueRow("partial", x, () -> x.seals(), 1, 2, 1);
         due("run is home", x.block(1, 0), 1);
@@ -531,7 +415,7 @@ public final class PromiseTest {
     }
 
     private static void clears() {
-        promise = 12;
+        promise(12);
         FlashFolio x = behind("w0110w0111w0510w0511w0612w0613");
         due("cold logs", x.logs(0), 1);
         due("in it pages 1, 5, 6", x.block((int) x.row(0), 2), 7);
@@ -547,7 +431,7 @@ public final class PromiseTest {
     }
 
     private static void levels() {
-        promise = 13;
+        promise(13);
         FlashFolio x = behind("w0010w0111w0412");
         due("no wipes", x.levels(), -2);
         x.sheet(2, 6, 3, 0);
@@ -583,7 +467,7 @@ public final class PromiseTest {
     }
 
     private static void cools() {
-        promise = 14;
+        promise(14);
         FlashFolio x = behind("w0110w0110w0110w0110w0110w0110w0110w0210w0210w0210");
         due("7 to 3, 3 to 1", x.cools(), 1);
         due("page 0 is not yet written", x.heat(0), 0);
@@ -605,7 +489,7 @@ public final class PromiseTest {
     }
 
     private static void sets() {
-        promise = 15;
+        promise(15);
         FlashFolio x = new FlashFolio();
         due("colds 3", x.sets(0, 3), 12);
         due("colds 1", x.sets(0, 1), 13);
@@ -634,7 +518,7 @@ public final class PromiseTest {
     }
 
     private static void days() {
-        promise = 16;
+        promise(16);
         FlashFolio x = new FlashFolio();
         tell(x, "w0010w0011qm0l");
         // w: home 0; w: run 1; q: partial, 0 copies, 0 wiped; m: home 2, 1 copy, 1 wiped; l: free 0 (1 wipe), home 2
@@ -673,7 +557,7 @@ public final class PromiseTest {
     }
 
     private static void undoes() {
-        promise = 17;
+        promise(17);
         FlashFolio x = new FlashFolio();
         due("none", x.undo(), -1);
         String[] seen = new String[13];
@@ -739,7 +623,7 @@ public final class PromiseTest {
     }
 
     private static void copies() {
-        promise = 18;
+        promise(18);
         FlashFolio x = new FlashFolio();
         dueRow("none", x, () -> x.copies(5), 0);
         x.sets(1, 0);
@@ -763,7 +647,7 @@ public final class PromiseTest {
     }
 
     private static void stale() {
-        promise = 19;
+        promise(19);
         FlashFolio x = behind("w0110w0111");
         dueRow("one", x, () -> x.stale(), 1, 0, 1);
         x.writes(1, 12);
@@ -778,7 +662,7 @@ public final class PromiseTest {
     }
 
     private static void hot() {
-        promise = 20;
+        promise(20);
         FlashFolio x = behind("w0110w0110w0110w0210w0210w0210w0310w0310w0010");
         dueRow("pages 1, 2", x, () -> x.hot(), 6, 2, 1, 3);
         x.writes(2, 0);
@@ -788,12 +672,12 @@ public final class PromiseTest {
         x.clears(1);
         x.sets(1, 0);
         dueRow("without hots", x, () -> x.hot(), 0, 0, 2, 4);
-        promise = 21;
+        promise(21);
         due("heat", x.heat(2), 4);
         FlashFolio y = behind("w0010w0010w0010w2310w2310w2310");
-        promise = 20;
+        promise(20);
         dueRow("the first page and the last", y, () -> y.hot(), 1 | 1 << 23, 2, 0, 3);
-        promise = 21;
+        promise(21);
         due("heat", x.heat(3), 2);
         due("heat of none", x.heat(23), 0);
         due("page 24", x.heat(24), -1);
@@ -801,7 +685,7 @@ public final class PromiseTest {
     }
 
     private static void next() {
-        promise = 22;
+        promise(22);
         FlashFolio x = behind("w0010");
         dueRow("the least", x, () -> x.next(), 1, 0, 15);
         x.sheet(2, 16, 20, -1);
@@ -811,7 +695,7 @@ public final class PromiseTest {
     }
 
     private static void logs() {
-        promise = 23;
+        promise(23);
         FlashFolio x = new FlashFolio();
         dueRow("none", x, () -> x.logs(0), 0);
         x.sets(1, 0);
@@ -827,7 +711,7 @@ public final class PromiseTest {
     }
 
     private static void holdsOfLogs() {
-        promise = 24;
+        promise(24);
         FlashFolio x = behind("w0110w0111w0510w0511w0410w0210");
         // log 1: pages 1, 5, both the latest; folder 0 has pages 1, 2, folder 1 pages 4, 5
         dueRow("folders 0, 1", x, () -> x.holds(0), 3, 2, 4);
@@ -843,7 +727,7 @@ public final class PromiseTest {
     }
 
     private static void spread() {
-        promise = 25;
+        promise(25);
         FlashFolio x = new FlashFolio();
         dueRow("none", x, () -> x.spread(), 0, 0, 0, 0);
         x.sheet(2, 4, 9, -3);
@@ -856,7 +740,7 @@ public final class PromiseTest {
     }
 
     private static void costs() {
-        promise = 26;
+        promise(26);
         FlashFolio x = behind("w0010w0111w0212");
         dueRow("(2)", x, () -> x.costs(3), 0, 0, 2, 0);
         dueRow("(3)", x, () -> x.costs(0), 0, 0, 3, 0);
@@ -880,7 +764,7 @@ public final class PromiseTest {
     }
 
     private static void worst() {
-        promise = 27;
+        promise(27);
         FlashFolio x = new FlashFolio();
         dueRow("nothing: the least page", x, () -> x.worst(), 0, 0, 0);
         dayOf(x, "w0410w0511w0412");
@@ -894,7 +778,7 @@ public final class PromiseTest {
     }
 
     private static void burst() {
-        promise = 28;
+        promise(28);
         FlashFolio x = new FlashFolio();
         dueRow("new", x, () -> x.burst(0, 24), 0, 0, 0, 0, 0);
         dayOf(x, "w0010w0111w0212w0313");
@@ -914,7 +798,7 @@ public final class PromiseTest {
     }
 
     private static void lasts() {
-        promise = 29;
+        promise(29);
         FlashFolio x = new FlashFolio();
         // page 0: home 0, run 1, then each write seals the run: home before is wiped, the next block is taken
         dueRow("the third write wipes", x, () -> x.lasts(0, 1), 3, 0, 0);
@@ -960,7 +844,7 @@ public final class PromiseTest {
     }
 
     private static void cuts() {
-        promise = 30;
+        promise(30);
         FlashFolio x = behind("w0010w0111w0212w0313w0020");
         // partial: 3 copies, home is wiped, then leaf 0 of the next run
         dueRow("no step", x, () -> x.cuts(0, 30, 0), 20, 5, 0);
@@ -986,7 +870,7 @@ public final class PromiseTest {
     }
 
     private static void swells() {
-        promise = 31;
+        promise(31);
         FlashFolio x = new FlashFolio();
         due("none", x.swells(), -2);
         x.writes(23, 0);
@@ -1002,7 +886,7 @@ public final class PromiseTest {
     }
 
     private static void heard() {
-        promise = 32;
+        promise(32);
         FlashFolio x = new FlashFolio();
         due("kind 4", x.heard(0, 4), 1);
         due("kind 5", x.heard(0, 5), -1);
@@ -1020,14 +904,14 @@ public final class PromiseTest {
         }
         due("13", x.heard(0, 0), -1);
         due("heard", x.count(9), 12);
-        promise = 33;
+        promise(33);
         due("denied", x.denies(), 12);
         due("none left", x.denies(), 0);
         due("none left", x.count(9), 0);
     }
 
     private static void fitsAndAsks() {
-        promise = 34;
+        promise(34);
         FlashFolio x = behind("w0010w0111w0212w0413w0020w0511");
         // homes 0 (3 leaves of folder 0), 1 (2 leaves of folder 1); run 2 (1 leaf of folder 0)
         dueRow("all", x, () -> x.fits(), 65535, 16);
@@ -1035,12 +919,12 @@ public final class PromiseTest {
         dueRow("folder 0", x, () -> x.fits(), 5, 2);
         x.heard(0, 1);
         dueRow("and home", x, () -> x.fits(), 1, 1);
-        promise = 35;
+        promise(35);
         dueRow("one is left", x, () -> x.asks(), 0, 1);
         x.heard(0, 2);
-        promise = 34;
+        promise(34);
         dueRow("none", x, () -> x.fits(), 0, 0);
-        promise = 35;
+        promise(35);
         due("none fits", x.asks(), -2);
         due("row stays", x.row(0), 0);
         x.denies();
@@ -1049,7 +933,7 @@ public final class PromiseTest {
         x.heard(2, 1);
         // left: 0, 1, 2: home or not parts them 2 and 1
         dueRow("is it home", x, () -> x.asks(), 1, 2);
-        promise = 34;
+        promise(34);
         x.denies();
         x.heard(2, 2);
         dueRow("2 leaves or more", x, () -> x.fits(), 3, 2);
@@ -1057,7 +941,7 @@ public final class PromiseTest {
         x.sheet(2, 16, 0, 1);
         x.heard(1, 9);
         dueRow("9 wipes or more", x, () -> x.fits(), 65535 & ~511, 7);
-        promise = 35;
+        promise(35);
         x.denies();
         dueRow("8 wipes or more", x, () -> x.asks(), 18, 8);
         FlashFolio y = behind("w2000w2101");
@@ -1077,7 +961,7 @@ public final class PromiseTest {
     }
 
     private static void law() {
-        promise = 36;
+        promise(36);
         FlashFolio x = behind("w0010");
         due("wrong", lawOf(x, "1+", 3), -10002);
         due("text is empty", x.count(12), 0);
@@ -1132,7 +1016,7 @@ public final class PromiseTest {
     }
 
     private static void years() {
-        promise = 37;
+        promise(37);
         FlashFolio x = new FlashFolio();
         due("n 0", x.years(1, 0), -1);
         due("n 61", x.years(1, 61), -1);
@@ -1167,7 +1051,7 @@ public final class PromiseTest {
     }
 
     private static void sum() {
-        promise = 38;
+        promise(38);
         FlashFolio x = new FlashFolio();
         int due = 7;
         for (int i = 0; i < 64; i++) {
@@ -1189,16 +1073,16 @@ public final class PromiseTest {
     }
 
     private static void keeps() {
-        promise = 39;
+        promise(39);
         FlashFolio x = behind("w0010w0020");
         holds("keep(2)", !x.keep(2));
         holds("keep(-1)", !x.keep(-1));
-        promise = 40;
+        promise(40);
         holds("nothing kept", !x.again(0));
         holds("again(2)", !x.again(2));
         holds("again(-1)", !x.again(-1));
         due("not forgotten by a refused one", x.count(10), 1);
-        promise = 39;
+        promise(39);
         holds("keep(1)", x.keep(1));
         String before = seenOf(x);
         due("what can be undone stays", x.count(10), 1);
@@ -1206,7 +1090,7 @@ public final class PromiseTest {
         dayOf(x, "w0511w0512hm0");
         x.sheet(2, 16, 9, 0);
         holds("keep(0)", x.keep(0));
-        promise = 40;
+        promise(40);
         holds("again(1)", x.again(1));
         holds("as it was", before.equals(seenOf(x)));
         due("colds, too", x.sets(0, 2), -2);
@@ -1223,7 +1107,7 @@ public final class PromiseTest {
     }
 
     private static void counts() {
-        promise = 41;
+        promise(41);
         FlashFolio x = behind("w0010w0111w0212w0313", "w0020w0121w0222w0323", "w0030w0031");
         x.merges(0);
         // block 0: home, wiped by the switch; 1: the run, home; 2: run, home by the partial; 3: run; merged to 4
@@ -1248,7 +1132,7 @@ public final class PromiseTest {
     }
 
     private static void rows() {
-        promise = 42;
+        promise(42);
         FlashFolio x = new FlashFolio();
         refusesBy("an empty row", () -> x.row(0));
         x.next();
@@ -1260,7 +1144,7 @@ public final class PromiseTest {
 
     /** Terms 2: questions change nothing, refused calls nothing but the text; the row stays with those. */
     private static void questions() {
-        promise = 0;
+        about("terms 2");
         FlashFolio x = behind("w0010w0111w0212w0313w0120w0520w0521", "w0122w0123w0020w0121w0822w0823");
         String before = seenOf(x);
         int past = x.count(10);
