@@ -492,7 +492,7 @@ public final class FlashFolio {
         beginTrial();
         trial.stepLimit = k;
         trial.write(page, value, ruling);
-        trial.stepLimit = Integer.MAX_VALUE;
+        trial.stepLimit = Flash.ALL_STEPS;
         int others = 0;
         for (int other = 0; other < PAGES; other++) {
             others += other != page && trial.valueOf(other) != now.valueOf(other) ? 1 : 0;
@@ -833,6 +833,8 @@ public final class FlashFolio {
 
     /** All that undo() brings back: leaves, blocks, heat, limits, counts; and what is done to them. */
     private static final class Flash {
+        /** More than any write has: the power stays. */
+        private static final int ALL_STEPS = 1 << 30;
         /** NONE of an empty leaf. */
         private final int[] page = new int[LEAVES];
         private final int[] value = new int[LEAVES];
@@ -848,7 +850,7 @@ public final class FlashFolio {
         private final int[] things = new int[Rule.THINGS_KNOWN];
         /** Steps of the latest write, and how many of them are done at most: the power may go. */
         private int steps = 0;
-        private int stepLimit = Integer.MAX_VALUE;
+        private int stepLimit = ALL_STEPS;
         private boolean wipedNow = false;
         private int wroteAt = 0;
         private int wroteBy = 0;

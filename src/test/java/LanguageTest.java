@@ -7,8 +7,11 @@ import java.nio.file.Files;
 import java.nio.file.Path;
 import java.util.ArrayList;
 import java.util.Arrays;
+import java.util.HashMap;
 import java.util.List;
+import java.util.Map;
 import java.util.Set;
+import java.util.TreeMap;
 import java.util.TreeSet;
 import java.util.regex.Matcher;
 import java.util.regex.Pattern;
@@ -27,6 +30,13 @@ public final class LanguageTest {
     private static final int MOST_PARAMETERS = 7;
     private static final int MOST_CLASSES = 12;
     private static final int MOST_FIELDS = 20;
+    private static final int MOST_CALLS_DEEP = 8;
+    private static final int FEWEST_METHODS = 110;
+    /** What the class uses of the library that rule 4 leaves. */
+    private static final Set<String> LIBRARY = Set.of("Math.max", "Math.min", "Integer.bitCount", "Arrays.fill",
+            "System.arraycopy");
+    private static final Pattern HEAD = Pattern.compile(
+            "(?m)^( {4}| {8})(?:public|private)([\\w\\[\\] ]*?)(\\w+)\\(([^)]*)\\)[^;{]*\\{$");
 
     private static int wrong = 0;
 
@@ -44,7 +54,9 @@ public final class LanguageTest {
         face();
         classes();
         words(code, whole);
+        library(code);
         methods(code);
+        calls(bodies(code));
         System.out.println(wrong == 0 ? "the source keeps to the rules" : wrong + " rules are broken");
         if (wrong != 0) {
             System.exit(1);
@@ -115,7 +127,7 @@ public final class LanguageTest {
         for (String word : new String[] {"->", "::", "\\bfinally\\b", "\\btry\\b", "\\bcatch\\b", "\\bsynchronized\\b",
             "\\bassert\\b", "\\bpackage\\b", "Exact\\b", "\\bThread\\b", "nanoTime", "currentTimeMillis", "Random",
             "\\bdouble\\b", "\\bfloat\\b", "\\bprotected\\b", "\\bstatic\\s*\\{", "\\bhashCode\\b", "\\btoString\\b",
-            "System\\.(?!arraycopy)", "Math\\.(?!max|min)", "Integer\\.(?!MAX_VALUE|bitCount)", "Arrays\\.(?!fill)"}) {
+            "\"\\s*\\+", "\\+\\s*\"", "\\bgoto\\b", "\\binstanceof\\b"}) {
             holds("no " + word, !Pattern.compile(word).matcher(code).find());
         }
         holds("plain signs alone", whole.chars().allMatch(c -> c == '\n' || c >= 32 && c < 127));
@@ -127,18 +139,84 @@ public final class LanguageTest {
         }
     }
 
+    /** Whatever is called by a name of the library, or on a text, is on the list. */
+    private static void library(String code) {
+        Matcher used = Pattern.compile("\\b([A-Z]\\w*[a-z]\\w*)\\.(\\w+)").matcher(code.replaceAll("(?m)^import .*$", ""));
+        Set<String> own = new TreeSet<>();
+        for (Class<?> type : allClasses()) {
+            own.add(type.getSimpleName());
+        }
+        while (used.find()) {
+            holds("library: " + used.group(), own.contains(used.group(1)) || LIBRARY.contains(used.group()));
+        }
+        Matcher called = Pattern.compile("\\b(\\w+)\\.(\\w+)\\(").matcher(code);
+        while (called.find()) {
+            boolean known = LIBRARY.contains(called.group(1) + "." + called.group(2)) || isOwn(called.group(2))
+                    || called.group(1).equals("THINGS") && called.group(2).equals("indexOf");
+            holds("library: " + called.group(), known);
+        }
+    }
+
+    private static boolean isOwn(String name) {
+        return allClasses().stream().anyMatch(type -> Arrays.stream(type.getDeclaredMethods())
+                .anyMatch(m -> m.getName().equals(name)));
+    }
+
     private static void methods(String code) {
-        Matcher m = Pattern.compile("(?m)^( {4}| {8})(?:public|private)[\\w ]*?(\\w+)\\(([^)]*)\\)[^;{]*\\{$").matcher(code);
+        Matcher m = HEAD.matcher(code);
         int found = 0;
         while (m.find()) {
             found++;
             int end = code.indexOf("\n" + m.group(1) + "}", m.start());
             long lines = code.substring(m.start(), end).lines().count() + 1;
-            holds(m.group(2) + " is short (" + lines + ")", lines <= MOST_LINES);
-            holds(m.group(2) + " takes few", m.group(3).split(",").length <= MOST_PARAMETERS);
+            holds(m.group(3) + " is short (" + lines + ")", lines <= MOST_LINES);
+            holds(m.group(3) + " takes few", m.group(4).split(",").length <= MOST_PARAMETERS);
             Matcher loop = Pattern.compile("(?s)\\b(for|while)\\b.*\\bnew ").matcher(code.substring(m.start(), end));
-            holds(m.group(2) + " makes nothing in a loop", !loop.find() || MAY_THROW.contains(m.group(2)));
+            holds(m.group(3) + " makes nothing in a loop", !loop.find() || MAY_THROW.contains(m.group(3)));
         }
-        holds("methods are found", found > 80);
+        holds("methods are found (" + found + ")", found >= FEWEST_METHODS);
+    }
+
+    /** What stands in each method, by its name: no two have the same. */
+    private static Map<String, String> bodies(String code) {
+        Map<String, String> all = new TreeMap<>();
+        Matcher m = HEAD.matcher(code);
+        while (m.find()) {
+            String body = code.substring(m.end(), code.indexOf("\n" + m.group(1) + "}", m.start()));
+            boolean made = m.group(2).isBlank();
+            holds("two are named " + m.group(3), all.put((made ? "new " : "") + m.group(3), body) == null);
+        }
+        return all;
+    }
+
+    /** No method comes back to itself, and calls go eight deep at most, the library's among them. */
+    private static void calls(Map<String, String> bodies) {
+        Map<String, Integer> deep = new HashMap<>();
+        for (String name : bodies.keySet()) {
+            int calls = deepFrom(name, bodies, deep, new ArrayList<>());
+            holds(name + " goes " + calls + " calls deep", calls <= MOST_CALLS_DEEP);
+        }
+        holds("the calls of write() are found", deep.getOrDefault("write", 0) > 3);
+    }
+
+    private static int deepFrom(String name, Map<String, String> bodies, Map<String, Integer> deep, List<String> open) {
+        if (deep.containsKey(name)) {
+            return deep.get(name);
+        }
+        holds(name + " comes back to itself by " + open, !open.contains(name));
+        if (open.contains(name)) {
+            return 0;
+        }
+        open.add(name);
+        int most = 0;
+        Matcher called = Pattern.compile("((?:new )?\\w+)\\(").matcher(bodies.get(name));
+        while (called.find()) {
+            boolean own = bodies.containsKey(called.group(1));
+            boolean word = Set.of("if", "for", "while", "switch", "return").contains(called.group(1));
+            most = Math.max(most, own ? deepFrom(called.group(1), bodies, deep, open) : word ? 0 : 1);
+        }
+        open.remove(name);
+        deep.put(name, most + 1);
+        return most + 1;
     }
 }
